@@ -1,0 +1,165 @@
+/** Promises 1 to 6: a new object, add, remove, shift, goal, lines. */
+public final class ListTest {
+    private static final int[] FAR = {Integer.MIN_VALUE, -1000000, 1000000, Integer.MAX_VALUE};
+
+    public static void main(String[] args) {
+        newObject();
+        addAnswersNumbers();
+        addRefuses();
+        removeRenumbers();
+        removeRefuses();
+        shiftMovesTheLine();
+        shiftRefuses();
+        goalSetsAndRefuses();
+        objectsAreApart();
+        Check.end();
+    }
+
+    private static void newObject() {
+        HalfPlaneSolver s = new HalfPlaneSolver();
+        Check.due("new: lines", s.lines(), 0);
+        Check.due("new: empty", s.empty(), 0);
+        Check.due("new: corners", s.corners(), 4);
+        Check.due("new: grid", s.grid(), 41 * 41);
+        Check.due("new: tight", s.tight(), 0);
+        Check.due("new: remove(0)", s.remove(0), -1);
+        Check.due("new: shift(0, 0)", s.shift(0, 0), -1);
+        Check.due("new: redundant(0)", s.redundant(0), -1);
+        Check.dueBest("new: goal (0, 0)", s, 0, 1, -20, 1, -20, 1);
+    }
+
+    private static void addAnswersNumbers() {
+        HalfPlaneSolver s = new HalfPlaneSolver();
+        int[][] edges = {{-9, 9, 99}, {9, -9, 99}, {0, 0, 99}, {1, 0, 5}, {0, 1, -99}};
+        for (int i = 0; i < 10; i++) {
+            int[] e = edges[i % 5];
+            Check.due("add " + i, s.add(e[0], e[1], e[2]), i);
+            Check.due("lines after add " + i, s.lines(), i + 1);
+        }
+        Check.due("add the eleventh", s.add(1, 1, 1), -3);
+        Check.due("lines after the eleventh", s.lines(), 10);
+        Check.due("add the eleventh, wrong a", s.add(10, 1, 1), -1);
+        Check.due("add the eleventh, wrong c", s.add(1, 1, 100), -2);
+        Check.due("remove makes room", s.remove(3), 9);
+        Check.due("add in the room made", s.add(1, 1, 1), 9);
+        Check.due("add beyond it", s.add(1, 1, 1), -3);
+    }
+
+    private static void addRefuses() {
+        HalfPlaneSolver s = new HalfPlaneSolver();
+        Check.due("add a 10", s.add(10, 0, 0), -1);
+        Check.due("add a -10", s.add(-10, 0, 0), -1);
+        Check.due("add b 10", s.add(0, 10, 0), -1);
+        Check.due("add b -10", s.add(0, -10, 0), -1);
+        Check.due("add c 100", s.add(0, 0, 100), -2);
+        Check.due("add c -100", s.add(0, 0, -100), -2);
+        Check.due("add a before c", s.add(10, 0, 100), -1);
+        Check.due("add b before c", s.add(0, -10, 100), -1);
+        for (int far : FAR) {
+            Check.due("add a " + far, s.add(far, 0, 0), -1);
+            Check.due("add b " + far, s.add(0, far, 0), -1);
+            Check.due("add c " + far, s.add(0, 0, far), -2);
+        }
+        Check.due("lines after refused adds", s.lines(), 0);
+        Check.due("grid after refused adds", s.grid(), 41 * 41);
+    }
+
+    private static void removeRenumbers() {
+        HalfPlaneSolver s = new HalfPlaneSolver();
+        for (int c = 0; c < 10; c++) {
+            s.add(1, 0, c);
+        }
+        Check.due("remove the first", s.remove(0), 9);
+        Check.due("line 0 is the old 1", s.shift(0, 0), 1);
+        Check.due("line 8 is the old 9", s.shift(8, 0), 9);
+        Check.due("remove in the middle", s.remove(4), 8);
+        Check.due("line 3 stays", s.shift(3, 0), 4);
+        Check.due("line 4 is the old 6", s.shift(4, 0), 6);
+        Check.due("remove the last", s.remove(7), 7);
+        Check.due("line 6 stays", s.shift(6, 0), 8);
+        Check.due("line 7 is gone", s.shift(7, 0), -1);
+        for (int left = 6; left >= 0; left--) {
+            Check.due("remove down to " + left, s.remove(0), left);
+        }
+        Check.due("grid after all are gone", s.grid(), 41 * 41);
+        Check.due("corners after all are gone", s.corners(), 4);
+    }
+
+    private static void removeRefuses() {
+        HalfPlaneSolver s = new HalfPlaneSolver();
+        s.add(1, 0, 3);
+        s.add(0, 1, 3);
+        Check.due("remove -1", s.remove(-1), -1);
+        Check.due("remove 2", s.remove(2), -1);
+        for (int far : FAR) {
+            Check.due("remove " + far, s.remove(far), -1);
+        }
+        Check.due("lines after refused removes", s.lines(), 2);
+        Check.due("grid after refused removes", s.grid(), 24 * 24);
+    }
+
+    private static void shiftMovesTheLine() {
+        HalfPlaneSolver s = new HalfPlaneSolver();
+        s.add(1, 0, 3);
+        s.add(0, 1, -4);
+        Check.due("shift up", s.shift(0, 4), 7);
+        Check.due("grid after shift up", s.grid(), 28 * 17);
+        Check.due("shift down", s.shift(1, -6), -10);
+        Check.due("grid after shift down", s.grid(), 28 * 11);
+        Check.due("shift by 0", s.shift(1, 0), -10);
+        Check.due("shift to 99", s.shift(0, 92), 99);
+        Check.due("shift to -99", s.shift(0, -198), -99);
+        Check.due("empty after shift to -99", s.empty(), 1);
+        Check.due("shift back to 99", s.shift(0, 198), 99);
+        Check.due("grid after shift to 99", s.grid(), 41 * 11);
+    }
+
+    private static void shiftRefuses() {
+        HalfPlaneSolver s = new HalfPlaneSolver();
+        s.add(1, 0, 99);
+        s.add(1, 0, -99);
+        Check.due("shift to 100", s.shift(0, 1), -2);
+        Check.due("shift 99 to -100", s.shift(0, -199), -2);
+        Check.due("shift to -100", s.shift(1, -1), -2);
+        Check.due("shift -99 to 100", s.shift(1, 199), -2);
+        for (int far : FAR) {
+            Check.due("shift 99 by " + far, s.shift(0, far), -2);
+            Check.due("shift -99 by " + far, s.shift(1, far), -2);
+            Check.due("shift of " + far, s.shift(far, far), -1);
+        }
+        Check.due("shift line before by", s.shift(2, Integer.MAX_VALUE), -1);
+        Check.due("shift line -1", s.shift(-1, 0), -1);
+        Check.due("c after refused shifts", s.shift(0, 0), 99);
+        Check.due("c after refused shifts", s.shift(1, 0), -99);
+    }
+
+    private static void goalSetsAndRefuses() {
+        HalfPlaneSolver s = new HalfPlaneSolver();
+        Check.due("goal(9, -9)", s.goal(9, -9), 0);
+        Check.dueBest("goal (9, -9)", s, 360, 1, 20, 1, -20, 1);
+        Check.due("goal p 10", s.goal(10, 0), -1);
+        Check.due("goal p -10", s.goal(-10, 0), -1);
+        Check.due("goal q 10", s.goal(0, 10), -1);
+        Check.due("goal q -10", s.goal(0, -10), -1);
+        for (int far : FAR) {
+            Check.due("goal p " + far, s.goal(far, 0), -1);
+            Check.due("goal q " + far, s.goal(0, far), -1);
+        }
+        Check.dueBest("after refused goals", s, 360, 1, 20, 1, -20, 1);
+        Check.due("goal(-9, 9)", s.goal(-9, 9), 0);
+        Check.dueBest("goal (-9, 9)", s, 360, 1, -20, 1, 20, 1);
+        s.add(1, 0, 5);
+        s.remove(0);
+        Check.dueBest("goal outlives lines", s, 360, 1, -20, 1, 20, 1);
+    }
+
+    private static void objectsAreApart() {
+        HalfPlaneSolver one = new HalfPlaneSolver();
+        HalfPlaneSolver other = new HalfPlaneSolver();
+        one.add(0, 0, -1);
+        one.goal(1, 1);
+        Check.due("lines of the other", other.lines(), 0);
+        Check.due("empty of the other", other.empty(), 0);
+        Check.due("xTop of the other", other.xTop(), -20);
+    }
+}
