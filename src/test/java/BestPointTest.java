@@ -96,6 +96,10 @@ public final class BestPointTest {
         HalfPlaneSolver upright = with(3, 0, 7, -3, 0, -7, 0, -5, 8);
         upright.goal(5, 0);
         Check.dueBest("upright segment", upright, 35, 3, 7, 3, -8, 5);
+        upright.add(0, 7, 9);
+        upright.goal(-9, 0);
+        Check.dueBest("upright segment between fractions", upright, -21, 1, 7, 3, -8, 5);
+        upright.remove(3);
         upright.goal(5, 1);
         Check.dueBest("upright segment, up", upright, 95, 3, 7, 3, 20, 1);
     }

@@ -7,6 +7,7 @@ public final class ListTest {
         addAnswersNumbers();
         addRefuses();
         removeRenumbers();
+        removeKeepsTheOthersWhole();
         removeRefuses();
         shiftMovesTheLine();
         shiftRefuses();
@@ -83,6 +84,21 @@ public final class ListTest {
         }
         Check.due("grid after all are gone", s.grid(), 41 * 41);
         Check.due("corners after all are gone", s.corners(), 4);
+    }
+
+    private static void removeKeepsTheOthersWhole() {
+        HalfPlaneSolver s = new HalfPlaneSolver();
+        s.add(1, 1, 10);
+        s.add(3, -2, 7);
+        s.add(-5, 4, 9);
+        s.goal(2, -1);
+        Check.due("remove before two others", s.remove(0), 2);
+        // Along 3x - 2y = 7 the value grows with x, up to the side y = 20.
+        Check.due("inside on line 0", s.inside(7, 7, 1), 1);
+        Check.due("inside beyond line 0", s.inside(8, 8, 1), 0);
+        Check.due("inside on line 1", s.inside(-9, -9, 1), 1);
+        Check.due("inside beyond line 1", s.inside(-10, -10, 1), 0);
+        Check.dueBest("after remove", s, 34, 3, 47, 3, 20, 1);
     }
 
     private static void removeRefuses() {
