@@ -3,8 +3,8 @@
  *
  * The region is bounded and convex, so it is empty just when it has no corner, its best point is
  * one of its corners, and a line allows all of it just when it allows all its corners. Every
- * question but inside and grid is therefore answered by going through the points in which two
- * borders meet.
+ * question about the region but inside and grid is therefore answered by going through the points
+ * in which two borders meet.
  *
  * The four sides of the square are kept as half-planes in the first slots, before the lines of the
  * list, so that sides and lines are treated alike. A point is three whole numbers x, y, d with
