@@ -12,8 +12,10 @@ public final class ClippingTest {
     private record Point(Fraction x, Fraction y) {
     }
 
-    private static final int RUNS = 400;
-    private static final int STEPS = 30;
+    // A run starts with at most 10 calls and a step makes at most 27; nothing is promised after an
+    // object's 512th.
+    private static final int RUNS = 660;
+    private static final int STEPS = 18;
 
     private static long state = 20261115;
     private static final List<int[]> list = new ArrayList<>();
@@ -30,6 +32,11 @@ public final class ClippingTest {
             goalQ = 0;
             // Small numbers make lines that are alike, parallel or through one point.
             int size = new int[] {1, 2, 3, 9}[run % 4];
+            where = "run " + run + " start";
+            for (int line = 0; line < run % 11; line++) {
+                // With no c below 0 the origin stays in the region.
+                changeByAdd(around(size), around(size), next(100));
+            }
             for (int step = 0; step < STEPS; step++) {
                 change(size);
                 where = "run " + run + " step " + step;
@@ -52,7 +59,7 @@ public final class ClippingTest {
     private static void change(int size) {
         int kind = next(10);
         if (kind < 5) {
-            changeByAdd(around(size), around(size), around(Math.min(99, 10 * size + next(60))));
+            changeByAdd(around(size), around(size), around(Math.min(101, 10 * size + next(60))));
         } else if (kind < 6) {
             changeByRemove(next(11) - 1);
         } else if (kind < 8) {
@@ -63,7 +70,7 @@ public final class ClippingTest {
     }
 
     private static void changeByAdd(int a, int b, int c) {
-        int want = list.size() == 10 ? -3 : list.size();
+        int want = Math.abs(c) > 99 ? -2 : list.size() == 10 ? -3 : list.size();
         Check.due(where + " add", solver.add(a, b, c), want);
         if (want >= 0) {
             list.add(new int[] {a, b, c});
