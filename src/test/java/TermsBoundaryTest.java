@@ -332,7 +332,7 @@ public final class TermsBoundaryTest {
             Check.due("corners after " + calls, s.corners(), 4);
             Check.due("grid after " + calls, s.grid(), (20 + c) * 41);
             Check.due("remove after " + calls, s.remove(0), 0);
-            Check.due("lines after " + calls, s.lines(), 0);
+            Check.due("grid without lines after " + calls, s.grid(), 41 * 41);
             calls += 7;
         }
         while (calls < 512) {
