@@ -323,8 +323,8 @@ public final class TermsBoundaryTest {
     private static void answersHoldToTheLastCall() {
         HalfPlaneSolver s = new HalfPlaneSolver();
         s.goal(1, 0);
-        int calls = 1;
-        while (calls + 7 <= 512) {
+        // One call is made already, and 73 times 7 are the other 511.
+        for (int calls = 1; calls < 512; calls += 7) {
             int c = calls % 20;
             Check.due("add after " + calls, s.add(1, 0, c), 0);
             Check.due("shift after " + calls, s.shift(0, -1), c - 1);
@@ -333,11 +333,6 @@ public final class TermsBoundaryTest {
             Check.due("grid after " + calls, s.grid(), (20 + c) * 41);
             Check.due("remove after " + calls, s.remove(0), 0);
             Check.due("grid without lines after " + calls, s.grid(), 41 * 41);
-            calls += 7;
-        }
-        while (calls < 512) {
-            calls++;
-            Check.due("xTop as call " + calls, s.xTop(), 20);
         }
     }
 }
